@@ -1687,7 +1687,7 @@ public final class OddHay {
             Arrays.fill(rowsWithRoom, 0);
             for (int k = 0; k < rows; k++) {
                 if (directions[k] == ahead || directions[k] == back) {
-                    boolean shrinks = directions[k] == ahead == amiss > 0;
+                    boolean shrinks = (directions[k] == ahead) == (amiss > 0);
                     rowsWithRoom[shrinks ? lengths[k] - 1 : PACE_MOST - lengths[k]]++;
                 }
             }

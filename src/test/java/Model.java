@@ -751,20 +751,29 @@ final class Model {
         return (int) (what == 0 ? price / 1000000L : price % 1000000L);
     }
 
-    /** Sets of PIECES that hang together and have all that must be there, the smallest of them; NONE - 1: too many. */
+    /** NONE - 1: there are too many PIECES and ends for this model. */
     int stiles(int line) {
         if (!isLine(line) || now.hays.size() > 6) {
             return NONE;
         }
         int[] map = pieceMap(line);
         List<Set<Integer>> beside = neighbours(map);
-        if (beside.size() > 16) {
-            return NONE - 1;
-        }
         int goal = map[now.church.y * 20 + now.church.x];
-        int must = 1 << goal;
+        Set<Integer> ends = new HashSet<>(Set.of(goal));
         for (Hay hay : now.hays) {
-            must |= 1 << map[hay.y * 20 + hay.x];
+            ends.add(map[hay.y * 20 + hay.x]);
+        }
+        if (beside.size() <= 14) {
+            return smallestSet(beside, goal, ends);
+        }
+        return ends.size() <= 4 ? bestForks(beside, new ArrayList<>(ends)) : NONE - 1;
+    }
+
+    /** Of the sets of PIECES that hang together and have all ends the smallest: one opening less than PIECES. */
+    private static int smallestSet(List<Set<Integer>> beside, int goal, Set<Integer> ends) {
+        int must = 0;
+        for (int end : ends) {
+            must |= 1 << end;
         }
         int best = Integer.MAX_VALUE;
         for (int set = 0; set < 1 << beside.size(); set++) {
@@ -773,6 +782,59 @@ final class Model {
             }
         }
         return best;
+    }
+
+    /** Up to four ends are joined best by ways that meet at no more than two PIECES beside themselves. */
+    private static int bestForks(List<Set<Integer>> beside, List<Integer> ends) {
+        int n = beside.size();
+        int[][] far = new int[n][n];
+        for (int p = 0; p < n; p++) {
+            Arrays.fill(far[p], 10000);
+            far[p][p] = 0;
+            for (int q : beside.get(p)) {
+                far[p][q] = 1;
+            }
+        }
+        for (int k = 0; k < n; k++) {
+            for (int p = 0; p < n; p++) {
+                for (int q = 0; q < n; q++) {
+                    far[p][q] = Math.min(far[p][q], far[p][k] + far[k][q]);
+                }
+            }
+        }
+        int best = Integer.MAX_VALUE;
+        for (int p = 0; p < n; p++) {
+            for (int q = p; q < n; q++) {
+                List<Integer> all = new ArrayList<>(ends);
+                all.add(p);
+                all.add(q);
+                best = Math.min(best, Math.min(tree(far, all), tree(far, all.subList(0, all.size() - 1))));
+            }
+        }
+        return Math.min(best, tree(far, ends));
+    }
+
+    /** The cheapest tree over these PIECES alone. */
+    private static int tree(int[][] far, List<Integer> all) {
+        List<Integer> in = new ArrayList<>(List.of(all.get(0)));
+        List<Integer> out = new ArrayList<>(all.subList(1, all.size()));
+        int sum = 0;
+        while (!out.isEmpty()) {
+            int best = Integer.MAX_VALUE;
+            Integer next = null;
+            for (int p : in) {
+                for (Integer q : out) {
+                    if (far[p][q] < best) {
+                        best = far[p][q];
+                        next = q;
+                    }
+                }
+            }
+            sum += best;
+            in.add(next);
+            out.remove(next);
+        }
+        return sum;
     }
 
     private static boolean hangsTogether(int set, int from, List<Set<Integer>> beside) {

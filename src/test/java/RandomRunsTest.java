@@ -33,6 +33,8 @@ public final class RandomRunsTest {
             while (calls.size() < CALLS) {
                 if (calls.isEmpty() || random.nextInt(60) == 0) {
                     tellParish();
+                } else if (seed % 4 == 3) {
+                    tellSmallLine();
                 } else {
                     call(random.nextInt(44));
                 }
@@ -121,13 +123,18 @@ public final class RandomRunsTest {
         for (int k = 0; k < lines; k++) {
             text.append("line ").append(names.remove(0));
             int corners = random.nextInt(3) == 0 ? 12 : 3 + random.nextInt(6);
-            int shape = random.nextInt(3);
+            int shape = random.nextInt(4);
             int x = random.nextInt(wide + 1);
             int y = random.nextInt(wide + 1);
             for (int i = 0; i < corners; i++) {
                 int oldX = x;
                 int oldY = y;
                 while (x == oldX && y == oldY) {
+                    if (shape == 2) { // to and fro, so that there are many small PIECES
+                        x = i % 2 == 0 ? random.nextInt(3) : wide - random.nextInt(3);
+                        y = Math.min(wide, i * wide / corners + random.nextInt(3));
+                        continue;
+                    }
                     x = shape == 1 && i % 2 == 0 ? x : random.nextInt(wide + 1);
                     y = shape == 1 && i % 2 == 1 ? y : random.nextInt(wide + 1);
                 }
@@ -184,6 +191,34 @@ public final class RandomRunsTest {
             then = then.substring(0, random.nextInt(then.length() + 1));
         }
         return then.length() > 930 ? then.substring(0, 930) : then;
+    }
+
+    /** Corners and points so near one another that a corner can come to its neighbours by night. */
+    private void tellSmallLine() {
+        StringBuilder text = new StringBuilder(random.nextBoolean() ? "edge his;" : "");
+        text.append("law ").append(random.nextBoolean() ? "odd" : random.nextBoolean() ? "left" : "round");
+        text.append(";line p");
+        int at = oneOf(0, 9, 17);
+        int corners = 3 + random.nextInt(4);
+        for (int i = 0; i < corners; i++) {
+            text.append(' ').append(at + random.nextInt(4)).append(' ').append(at + random.nextInt(4));
+        }
+        put(text.append(';').toString());
+        same("parish", hay::parish, model::parish);
+        int[] bytes = new int[3 * (1 + random.nextInt(8))];
+        for (int i = 0; i < bytes.length; i++) {
+            bytes[i] = i % 3 == 2 ? random.nextInt(2) : at + random.nextInt(4);
+        }
+        int r = oneOf(1, 1, 2, 2, 3);
+        put(bytes);
+        same("byNight 0 " + r, () -> hay.byNight(0, r), () -> model.byNight(0, r));
+        tellWays();
+        put(bytes);
+        same("rectangle", hay::rectangle, model::rectangle);
+        for (int w = 0; w < 4; w++) {
+            int what = w;
+            same("side " + what, () -> hay.side(what), () -> model.side(what));
+        }
     }
 
     private String walk(int rows, int most) {
