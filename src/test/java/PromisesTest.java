@@ -1,90 +1,11 @@
-import java.util.NoSuchElementException;
-
 /** For each promise of the document ordinary inputs, the edges that it names, and wrong inputs. */
-public final class PromisesTest {
-    private static final String FIELD = "line p 2 2 8 2 8 8 2 8;";
-    private static final String BOW = "line p 0 0 4 4 4 0 0 4;";
-    private static final String TWICE = "line p 2 2 8 2 8 8 2 8 2 2 8 2 8 8 2 8;";
-    private static final int THROWS = Integer.MIN_VALUE;
-
-    private static int wrong;
-    private static int promise;
-    private OddHay hay = new OddHay();
-
-    private interface Call {
-        int answer();
-    }
-
+public final class PromisesTest extends Trial {
     private PromisesTest(int number) {
-        promise = number;
+        about("promise " + number);
     }
 
     private static PromisesTest promise(int number) {
         return new PromisesTest(number);
-    }
-
-    private static void due(String what, int want, int got) {
-        if (got != want) {
-            wrong++;
-            System.out.println("promise " + promise + ": " + what + " answered " + got + ", due is " + want);
-        }
-    }
-
-    private static void due(String what, boolean want, boolean got) {
-        due(what, want ? 1 : 0, got ? 1 : 0);
-    }
-
-    private static int orThrows(Call call) {
-        try {
-            return call.answer();
-        } catch (NoSuchElementException e) {
-            return THROWS;
-        }
-    }
-
-    private void tell(String text) {
-        Tell.text(hay, text);
-    }
-
-    private int parish(String text) {
-        tell(text);
-        return hay.parish();
-    }
-
-    private int claims(int line, String text) {
-        tell(text);
-        return hay.claims(line);
-    }
-
-    private int walk(int line, int h, String text) {
-        tell(text);
-        return hay.walk(line, h);
-    }
-
-    private int paces(String text) {
-        tell(text);
-        return hay.paces();
-    }
-
-    private int byNight(int line, int r, int... bytes) {
-        Tell.bytes(hay, bytes);
-        return hay.byNight(line, r);
-    }
-
-    private int rectangle(int... bytes) {
-        Tell.bytes(hay, bytes);
-        return hay.rectangle();
-    }
-
-    /** The text has this FAULT, at this place, and nothing of it is the PARISH. */
-    private void faulty(int kind, int place, String text) {
-        due("parish of '" + text + "'", -1 - place, parish(text));
-        due("fault of '" + text + "'", kind, hay.fault());
-    }
-
-    private void sound(int rows, String text) {
-        due("parish of '" + text + "'", rows, parish(text));
-        due("fault of '" + text + "'", 0, hay.fault());
     }
 
     public static void main(String[] args) {
@@ -132,8 +53,7 @@ public final class PromisesTest {
         promise(40).image();
         promise(41).restore();
         promise(42).count();
-        System.out.println(wrong == 0 ? "promises: all answers are as due" : "promises: " + wrong + " wrong");
-        System.exit(wrong == 0 ? 0 : 1);
+        close("promises");
     }
 
     private void newObject() {
@@ -463,11 +383,6 @@ public final class PromisesTest {
         due("no such", -1, hay.within(0, -1));
     }
 
-    private void claimsFaulty(int kind, int place, String text) {
-        due("claims '" + text + "'", -1 - place, claims(0, text));
-        due("fault of '" + text + "'", kind, hay.fault());
-    }
-
     private void claimed() {
         parish(FIELD + "hay h 3 3 1;hay k 12 3 1;");
         due("none", 0, claims(0, ""));
@@ -610,11 +525,6 @@ public final class PromisesTest {
         for (int[] n : none) {
             due("no such", -1, hay.crosses(n[0], n[1], n[2], n[3]));
         }
-    }
-
-    private void walkFaulty(int kind, int place, String text) {
-        due("walk '" + text + "'", -1 - place, walk(0, 0, text));
-        due("fault of '" + text + "'", kind, hay.fault());
     }
 
     private void walks() {
@@ -931,11 +841,6 @@ public final class PromisesTest {
         for (int what = 0; what < 4; what++) {
             due("side " + what, due[what], hay.side(what));
         }
-    }
-
-    private void pacesFaulty(int kind, int place, String text) {
-        due("paces '" + text + "'", -1 - place, paces(text));
-        due("fault of '" + text + "'", kind, hay.fault());
     }
 
     private void pace() {
