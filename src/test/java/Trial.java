@@ -16,6 +16,10 @@ abstract class Trial {
         int answer();
     }
 
+    interface Asked {
+        int answer(int number);
+    }
+
     /** The promise or the sentence of the document by which the next answers are due, those of a new object. */
     final void about(String text) {
         about = text;
@@ -44,6 +48,18 @@ abstract class Trial {
             return call.answer();
         } catch (NoSuchElementException e) {
             return THROWS;
+        }
+    }
+
+    /** The least and the most number are answered, and those beyond them are refused, near by and far off. */
+    static void bounds(String what, int least, int most, int refusal, Asked asked) {
+        int[] within = {least, most};
+        for (int n : within) {
+            due(what + " " + n + " is refused", false, orThrows(() -> asked.answer(n)) == refusal);
+        }
+        int[] beyond = {least - 1, most + 1, Integer.MIN_VALUE, Integer.MAX_VALUE};
+        for (int n : beyond) {
+            due(what + " " + n, refusal, orThrows(() -> asked.answer(n)));
         }
     }
 
