@@ -1,3 +1,5 @@
+import java.util.Arrays;
+
 /** Each sentence that bounds corners MOVED, acts undone, images and counts; promises 28 to 32, 40 to 42. */
 public final class ActBoundariesTest extends Trial {
     private static final String RICH = FIELD + "line q 0 0 20 0 20 20;hay h 3 3 7;hay k 12 3 9;"
@@ -190,33 +192,49 @@ public final class ActBoundariesTest extends Trial {
         due("nor can they be undone", 1, hay.undo());
     }
 
-    /** Each night again by move() of another object, by draws that are made here. */
+    /** Of each LINE the corners, of each corner X and Y. */
+    private int[][][] corners() {
+        int[][][] all = new int[hay.count(0)][][];
+        for (int line = 0; line < all.length; line++) {
+            all[line] = new int[hay.line(line, 0)][];
+            for (int i = 0; i < all[line].length; i++) {
+                all[line][i] = new int[] {hay.corner(line, i, 0), hay.corner(line, i, 1)};
+            }
+        }
+        return all;
+    }
+
+    private static boolean mayCome(int[][] corners, int i, int[] to) {
+        int[] ahead = corners[(i + corners.length - 1) % corners.length];
+        int[] behind = corners[(i + 1) % corners.length];
+        return Math.min(to[0], to[1]) >= 0 && Math.max(to[0], to[1]) <= 20 && !Arrays.equals(to, ahead)
+            && !Arrays.equals(to, behind);
+    }
+
+    /** Each night again, by draws that are made here. */
     private void nightsByHand(String text, int n, int seed) {
         parish(text);
-        OddHay twin = new OddHay();
-        Tell.text(twin, text);
-        twin.parish();
+        int[][][] all = corners();
+        int[] dx = {0, 1, 0, -1};
+        int[] dy = {-1, 0, 1, 0};
         int x = seed;
         int done = 0;
         for (int night = 0; night < n; night++) {
             x = x * 1103515245 + 12345;
-            int line = (x >>> 8) % twin.count(0);
+            int[][] line = all[(x >>> 8) % all.length];
             x = x * 1103515245 + 12345;
-            int i = (x >>> 8) % twin.line(line, 0);
+            int i = (x >>> 8) % line.length;
             x = x * 1103515245 + 12345;
             int way = (x >>> 8) % 4;
-            int[] dx = {0, 1, 0, -1};
-            int[] dy = {-1, 0, 1, 0};
-            done += bit(twin.move(line, i, twin.corner(line, i, 0) + dx[way], twin.corner(line, i, 1) + dy[way]));
+            int[] to = {line[i][0] + dx[way], line[i][1] + dy[way]};
+            if (mayCome(line, i, to)) {
+                line[i] = to;
+                done++;
+            }
         }
         due("nights " + n + " " + seed, done, hay.nights(n, seed));
         due("MOVED", done, hay.count(6));
-        for (int line = 0; line < twin.count(0); line++) {
-            for (int i = 0; i < twin.line(line, 0); i++) {
-                due("X of " + line + " " + i, twin.corner(line, i, 0), hay.corner(line, i, 0));
-                due("Y of " + line + " " + i, twin.corner(line, i, 1), hay.corner(line, i, 1));
-            }
-        }
+        due("corners", true, Arrays.deepEquals(all, corners()));
         due("one act", 0, hay.undo());
         due("undone", 0, hay.count(6));
     }

@@ -213,6 +213,7 @@ public final class PromisesTest extends Trial {
         faulty(1, 900, blanks);
         faulty(1, 899, blanks.substring(0, 899) + "x       ");
         faulty(1, 896, blanks.substring(0, 896) + "churches");
+        renew();
         faulty(1, 900, blanks.substring(0, 896) + "church 1 1;");
         faulty(2, 899, blanks.substring(0, 892) + "church 20 1;");
         faulty(1, 900, blanks.substring(0, 892) + "church 19 1;");

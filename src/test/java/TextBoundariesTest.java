@@ -462,6 +462,8 @@ public final class TextBoundariesTest extends Trial {
         claimsFaulty(1, 300, blanks(300) + "X");
         claimsFaulty(1, 299, blanks(299) + "X ");
         claimsFaulty(3, 0, "x his;" + blanks(930));
+        renew();
+        parish(PLACE);
         due("a walk of 300", 0, walk(0, 0, "n 1;" + blanks(296)));
         due("a walk of 300", 0, walk(0, 0, blanks(296) + "n 1;"));
         walkFaulty(1, 300, "n 1;" + blanks(297));
@@ -470,6 +472,7 @@ public final class TextBoundariesTest extends Trial {
         walkFaulty(1, 299, blanks(299) + "X ");
         walkFaulty(2, 2, "n 0;" + blanks(930));
         walkFaulty(5, 0, "n 20;" + blanks(930));
+        renew();
         due("paces of 300", 2, paces("n 1;n 1;" + blanks(292)));
         due("paces of 300", 2, paces(blanks(292) + "n 1;n 1;"));
         pacesFaulty(1, 300, "n 1;n 1;" + blanks(293));
@@ -488,12 +491,14 @@ public final class TextBoundariesTest extends Trial {
         faulty(1, 899, blanks(895) + "hay abcdefgh 1 1 1;");
         faulty(1, 899, blanks(895) + "hay point 1 1 1;");
         faulty(1, 899, blanks(895) + "hay a1 1 1 1;");
+        renew();
         faulty(3, 899, "hay abcdefg 1 1 1;" + blanks(877) + "hay abcdefg 1 1 1;");
         faulty(1, 900, blanks(892) + "church 19 19;");
         faulty(2, 899, blanks(892) + "church 20 19;");
         faulty(1, 899, blanks(892) + "church 100 19;");
         faulty(1, 900, blanks(893) + "church 20 19;");
         faulty(3, 899, "church 1 1;" + blanks(888) + "church 1 1;");
+        renew();
         parish(PLACE);
         claimsFaulty(1, 300, blanks(299) + "hayrick his;");
         claimsFaulty(3, 299, blanks(299) + "hayric his;");
@@ -543,6 +548,8 @@ public final class TextBoundariesTest extends Trial {
         renew();
         parish(PLACE);
         cut(text -> claims(0, text), "point 1 2 his ; point 3 4 on ; h parish ; hayrick his ;");
+        renew();
+        parish(PLACE);
         cut(text -> walk(0, 0, text), "n 1 ; e 2 ; s 3 ; w 4 ;");
         renew();
         due("two ROWS", 2, paces("n 1;e 1;"));
@@ -784,8 +791,9 @@ public final class TextBoundariesTest extends Trial {
             byNight(0, 1, 5, 5, 1);
             due("byNight without the LINE", 0, hay.count(7));
         }
-        parish(PLACE);
         for (String text : texts) {
+            renew();
+            parish(PLACE);
             claims(0, text);
             due("claims", 0, hay.count(7));
             walk(0, 0, text);
