@@ -16,6 +16,7 @@ public final class ActBoundariesTest extends Trial {
         test.wonAndLost();
         test.nights();
         test.nightsByHand();
+        test.all512Calls();
         test.undo();
         test.undoEach();
         test.undoKept();
@@ -267,6 +268,20 @@ public final class ActBoundariesTest extends Trial {
             due("a night that MOVED nothing was done, too", 0, hay.undo());
         }
         due("some would have left 0 to 20", true, stood > 5 && stood < 35);
+    }
+
+    private void all512Calls() {
+        about("An object is used for at most 512 calls after it has been made");
+        Tell.text(hay, "line p 5 5 9 5 9 9;");
+        hay.parish();
+        for (int call = 5; call < 503; call++) {
+            due("call " + call, true, hay.move(0, 0, call % 2, call % 19));
+        }
+        due("MOVED", 498, hay.count(6));
+        for (int k = 7; k >= 0; k--) {
+            due("undo", k, hay.undo());
+        }
+        due("the 512th call", 490, hay.count(6));
     }
 
     private void undo() {

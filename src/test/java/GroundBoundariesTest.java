@@ -158,6 +158,12 @@ public final class GroundBoundariesTest extends Trial {
         due("from the last corner to the first, too", -4, hay.line(0, 1));
         due("the least", 1, hay.line(1, 1));
         due("twice round", 1600, hay.line(2, 1));
+        String twelve = "line p 0 0 20 0 20 20 19 20 19 1 2 1 2 20 1 20 1 19 1 18 0 18 0 17;";
+        parish(twelve);
+        due("12 corners", 2 * (20 + 19 + 19 + 17), hay.line(0, 1));
+        parish(twelve);
+        parish("line p 1 1 2 1 2 2;");
+        due("3 corners, no other ones of a PARISH ahead", 1, hay.line(0, 1));
     }
 
     private void meets(int cross, int touch, String corners) {
@@ -490,6 +496,21 @@ public final class GroundBoundariesTest extends Trial {
         due("east, from the middle", 0, hay.crosses(0, 10, 9, 1));
         due("south, to the middle", 1, hay.crosses(0, 10, 8, 2));
         due("south, from the middle", 0, hay.crosses(0, 10, 9, 2));
+
+        about("a little west and a little east of a middle, a little north and a little south of it");
+        parish("line p 0 5 20 6 20 20 0 20;line q 5 0 6 20 0 20 0 0;");
+        due("north of the middle", 1, hay.crosses(0, 9, 4, 2));
+        due("north of the middle", 0, hay.crosses(0, 9, 5, 2));
+        due("south of the middle", 0, hay.crosses(0, 10, 4, 2));
+        due("south of the middle", 1, hay.crosses(0, 10, 5, 2));
+        due("west of the middle", 1, hay.crosses(1, 4, 9, 1));
+        due("west of the middle", 0, hay.crosses(1, 5, 9, 1));
+        due("east of the middle", 0, hay.crosses(1, 4, 10, 1));
+        due("east of the middle", 1, hay.crosses(1, 5, 10, 1));
+        due("its SQUARE is HIS as the middle is", 1, hay.square(0, 9, 5));
+        due("its SQUARE is HIS as the middle is", 0, hay.square(0, 10, 5));
+        due("its SQUARE is HIS as the middle is", 0, hay.square(1, 5, 9));
+        due("its SQUARE is HIS as the middle is", 1, hay.square(1, 5, 10));
 
         about("an EDGE that lies along it crosses it never");
         parish("line p 5 5 9 5 9 9 5 9;line q 5 5 15 5 10 5;");

@@ -284,6 +284,16 @@ public final class PointBoundariesTest extends Trial {
             night(1, 1, 2, 7, 7);
             due("a RECTANGLE of seven like ones", 4, rectangle(bytes));
         }
+        parish(FIELD);
+        due("two neighbours, eight points", 2, byNight(0, 1, 7, 7, 0, 7, 3, 0, 3, 3, 1, 3, 7, 1, 4, 4, 1, 5, 5, 1, 4, 6, 1,
+            9, 9, 0));
+        night(2, 9, 1, 7, 1, 2, 7, 7);
+        about("BY NIGHT of a LINE of 12 corners");
+        parish("line p 2 2 8 2 8 8 2 8 2 2 8 2 8 8 2 8 2 2 8 2 8 8 2 8;");
+        due("the last corner", 0, byNight(0, 1, 3, 7, 1));
+        due("one of three alike is enough by odd", 1, byNight(0, 1, 3, 7, 0));
+        night(1, 3, 3, 3, 7);
+        about("points: three times round");
         parish("line p 2 2 8 2 8 8 2 8 2 2 8 2 8 8 2 8 2 2 8 2 8 8 2 8;law round;");
         due("three times round, eight times", 0, byNight(0, 1, 3, 3, 1, 4, 4, 1, 5, 5, 1, 6, 6, 1, 7, 7, 1, 3, 7, 1, 7, 3, 1,
             4, 6, 1));

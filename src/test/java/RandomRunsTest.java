@@ -6,7 +6,7 @@ import java.util.Random;
 /** Many runs of calls drawn by fixed seeds, each answer of OddHay compared with that of the Model. */
 public final class RandomRunsTest {
     private static final int RUNS = 400;
-    private static final int CALLS = 500;
+    private static final int CALLS = 430;
     private static final String[] NAMES = {"p", "q", "r", "a", "b", "c", "d", "f", "g", "h", "hayrick", "zz", "lines"};
 
     private final Random random;

@@ -167,6 +167,16 @@ public final class TextBoundariesTest extends Trial {
         faulty(1, 6, "hay h " + "0".repeat(300) + " 1 1;");
         faulty(1, 6, "hay h -1 1 1;");
         faulty(1, 7, "hay h 1.5 1 1;");
+        about("a sign where a NUMBER is asked is no NUMBER of no digits");
+        faulty(1, 6, "hay h . 1 1;");
+        faulty(1, 7, "church . 1;");
+        faulty(1, 6, "heirs A 1 2 3;");
+        faulty(1, 7, "line p . 1 2 3 4 5;");
+        faulty(1, 9, "line p 1 . 2 3 4 5;");
+        parish(PLACE);
+        claimsFaulty(1, 6, "point . 1 his;");
+        walkFaulty(1, 2, "n .;");
+        pacesFaulty(1, 2, "n .;");
     }
 
     private void runs() {
