@@ -28,6 +28,7 @@ public final class GroundBoundariesTest extends Trial {
         test.heirs();
         test.pieces();
         test.beside();
+        test.manyPieces();
         test.stepsOverMiddles();
         test.stepsAtTheRim();
         test.walks();
@@ -472,6 +473,29 @@ public final class GroundBoundariesTest extends Trial {
         due("by many sides, once", 1, hay.piece(2, 1, 4));
         parish(CHECKS);
         due("a corner is no side", 1, hay.piece(0, 0, 4));
+    }
+
+    /** By left nothing but the middles ON six diagonals is HIS: so SQUARES between them are PIECES of their own, too. */
+    private void manyPieces() {
+        about("PIECES of one SQUARE each: of X - Y from 0 to 10");
+        parish("line p 0 0 20 20 20 18 2 0 4 0 20 16 20 14 6 0 8 0 20 12 20 10 10 0;law left;edge his;"
+            + "hay a 19 0 1;hay b 19 19 1;hay c 10 0 1;church 0 19;");
+        due("HIS", 20 + 18 + 16 + 14 + 12 + 10, hay.acres(0));
+        due("PIECES", 90 + 19 + 17 + 15 + 13 + 11 + 2, hay.pieces(0));
+        int sum = 0;
+        int squares = 0;
+        for (int p = 0; p < 167; p++) {
+            sum += hay.piece(0, p, 4);
+            squares += hay.piece(0, p, 0);
+        }
+        due("BESIDE, from both", 2 * (2 * (19 + 18 + 17 + 16 + 15 + 14 + 13 + 12 + 11 + 10) + 20 + 10), sum);
+        due("all SQUARES", 400, squares);
+        due("no more", -1, hay.piece(0, 167, 0));
+        due("the last begins where the last SQUARE is", 166, hay.pieceAt(0, 19, 19));
+        due("its four neighbours", 4, hay.piece(0, hay.pieceAt(0, 8, 5), 4));
+        due("over all diagonals, past c; b is beside the church's PIECE", 12 + 1, hay.stiles(0));
+        parish(FIELD + "hay a 3 3 1;");
+        due("two PIECES after so many", 1, hay.stiles(0));
     }
 
     private void stepsOverMiddles() {
