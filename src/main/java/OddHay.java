@@ -806,6 +806,17 @@ public final class OddHay {
             return x[i] == px && y[i] == py;
         }
 
+        /** One corner more; false, if there is no room for it. */
+        boolean add(int px, int py) {
+            if (corners >= CORNERS_MOST) {
+                return false;
+            }
+            x[corners] = px;
+            y[corners] = py;
+            corners++;
+            return true;
+        }
+
         /** Would corner i be unlike its neighbours there? */
         boolean mayStandAt(int i, int px, int py) {
             return !isAt(before(i), px, py) && !isAt(after(i), px, py);
@@ -1054,35 +1065,30 @@ public final class OddHay {
                 if (text.kind == SEMICOLON) {
                     return closeLine(text, line);
                 }
-                if (!tellCorner(text, line)) {
+                int px = text.value;
+                if (!beginsCorner(text, line) || !text.readNumber(0, WIDE) || !endsCorner(text, line, px)) {
                     return false;
                 }
             }
             return false;
         }
 
-        private boolean tellCorner(Reader text, Line line) {
+        private static boolean beginsCorner(Reader text, Line line) {
             if (text.kind != NUMBER) {
                 return text.fail(1);
             }
             if (text.value > WIDE) {
                 return text.fail(2);
             }
+            return line.corners < CORNERS_MOST || text.fail(4);
+        }
+
+        private static boolean endsCorner(Reader text, Line line, int px) {
             int i = line.corners;
-            if (i >= CORNERS_MOST) {
-                return text.fail(4);
-            }
-            int px = text.value;
-            if (!text.readNumber(0, WIDE)) {
-                return false;
-            }
             if (i > 0 && line.isAt(i - 1, px, text.value)) {
                 return text.fail(3);
             }
-            line.x[i] = px;
-            line.y[i] = text.value;
-            line.corners = i + 1;
-            return true;
+            return line.add(px, text.value);
         }
 
         private boolean closeLine(Reader text, Line line) {
